@@ -21,7 +21,8 @@ public final class SteepleStruck {
     private static final int MOST_STRENGTH = 9;
     private static final int MOST_CHARGE = 999;
     private static final int LAST_SUMMER = 999;
-    private static final int NO_LAST_SUMMER = Integer.MAX_VALUE;
+    // far above any summer that a look ahead can come to
+    private static final int NO_LAST_SUMMER = 1000000;
     private static final int FARTHEST_LOOK = 60;
     private static final int HIM = 0;
 
@@ -226,10 +227,10 @@ public final class SteepleStruck {
         }
         int best = NONE;
         int sets = 1 << here.things.size();
-        for (int set = 0; set < sets; set++) {
-            // sets rise: of like ones the first is the least
+        // by twos, for HE is in none; rising, so that of like ones the first is the least
+        for (int set = 0; set < sets; set += 2) {
             boolean fewer = best == NONE || Integer.bitCount(set) < Integer.bitCount(best);
-            if ((set & 1 << HIM) == 0 && fewer && isSparedBy(set)) {
+            if (fewer && isSparedBy(set)) {
                 best = set;
             }
         }
@@ -1120,9 +1121,7 @@ public final class SteepleStruck {
         private int mostAlike(int kinds) {
             int most = 0;
             for (int kind = 0; kind < KINDS; kind++) {
-                if ((kinds >> kind & 1) == 1) {
-                    most = Math.max(most, Integer.bitCount(kinds & answering(answers.at(kind))));
-                }
+                most = Math.max(most, Integer.bitCount(kinds & answering(answers.at(kind))));
             }
             return most;
         }

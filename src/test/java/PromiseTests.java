@@ -352,6 +352,14 @@ public final class PromiseTests {
         x.seen(0, 0);
         x.undo();
         due("11 seen", x.count(6), 1);
+        // of two summers the later one brings 9, and the charge goes back to 9
+        SteepleStruck z = things(5, 30, 0);
+        storms(z, 0, 9, 0, 9);
+        z.summers(1);
+        z.summers(1);
+        due("11 charge", z.count(5), 18);
+        due("11 back", z.undo(), 1);
+        due("11 charge", z.count(5), 9);
         x.summers(1);
         x.forget(0);
         x.image(0);
@@ -627,6 +635,23 @@ public final class PromiseTests {
         due("22 BAD", x.order(0, -2), -10);
         due("22 BAD", x.order(0, Integer.MIN_VALUE), -10);
         due("22 counted", x.status(0), 4);
+
+        // coats 4, 6, 8, 10, 12, 14, behind one another; all alike, so rising
+        x = new SteepleStruck();
+        bodies(x, 1, 1, 1, 1, 1, 1);
+        int[] sums = {4, 10, 18, 28, 40, 54};
+        for (int i = 0; i < 6; i++) {
+            due("22 one less", x.order(sums[i] - 1, SteepleStruck.NONE), i);
+            due("22 so many coats", x.order(sums[i], SteepleStruck.NONE), i + 1);
+            due("22 rising", x.order(sums[i], i), i);
+        }
+        // foot, brow, hat: with three there the hat is 1, yet first it is 4 (in summer 0)
+        x = new SteepleStruck();
+        bodies(x, 5, 4, 3, 0, 2);
+        due("22 brow 10, nose 3, foot 4, then hat 1, hand 4", x.order(22, SteepleStruck.NONE), 5);
+        due("22 there is no cheaper order of all five", x.order(21, SteepleStruck.NONE), 4);
+        due("22 the first of all orders", x.order(99, 0) * 10000 + x.order(99, 1) * 1000 + x.order(99, 2) * 100
+            + x.order(99, 3) * 10 + x.order(99, 4), 1234);
 
         x = things(5, 30, 0);
         storms(x, 0, 4);
@@ -905,7 +930,7 @@ public final class PromiseTests {
         due("33 HE is down", x.falls(5, 5), 1);
         due("33 HE is down", x.part(0) * 100 + x.part(1), 1);
         x = things(0, 1, 0, 1, 1, 0, 1, 1, 0, 1, 1, 0, 1, 1, 0, 1, 1, 0);
-        x.falls(0, 9);
+        due("33 it answers 1", x.falls(0, 9), 1);
         due("33 9 by 9 by .. of six", x.part(0), 59049);
         due("33 of ten, six times", x.part(1), 1000000);
     }
@@ -937,6 +962,15 @@ public final class PromiseTests {
         }
         due("34 counted", x.status(0), 4);
         due("34 far on", x.septembers(999999, 60), 2);
+        // one summer with X next to where the cell, the strength changes: cut, not rounded
+        x = things(5, 30, 0);
+        bodies(x, 0);
+        due("34 1986001148 is of 3", x.septembers(13807, 1), 0);
+        due("34 989856111 is of 4", x.septembers(7246, 1), 1);
+        x = things(0, 1, 6);
+        bodies(x, 0);
+        due("34 1369589711 is in 6", x.septembers(46, 1), 1);
+        due("34 1695198674 is in 6", x.septembers(93, 1), 1);
         x = things(5, 30, 0);
         for (int i = 0; i < 17; i++) {
             x.summers(60);
