@@ -22,8 +22,8 @@ final class Check {
         }
     }
 
-    static int wrongs() {
-        return wrong;
+    static int calls() {
+        return calls;
     }
 
     /** Ends the run: with exit code 1 if anything was not as due, or nothing was looked at. */

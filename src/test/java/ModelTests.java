@@ -1,7 +1,4 @@
-import java.lang.reflect.InvocationTargetException;
 import java.lang.reflect.Method;
-import java.util.ArrayList;
-import java.util.List;
 
 /** Runs of calls by fixed seeds, each answer held against the Model; none may throw. */
 public final class ModelTests {
@@ -36,47 +33,18 @@ public final class ModelTests {
     private static final class Run {
         final int number;
         final Dice dice;
-        final SteepleStruck real = new SteepleStruck();
-        final Model model = new Model();
-        final List<String> told = new ArrayList<>();
-        int calls = 0;
+        final Both both;
+        final Model model;
 
         Run(int number) {
             this.number = number;
             this.dice = new Dice(number);
+            this.both = new Both("run " + number);
+            this.model = both.model;
         }
 
         boolean call(String name, int... args) throws ReflectiveOperationException {
-            if (calls >= CALLS) {
-                return true;
-            }
-            calls++;
-            Class<?>[] types = new Class<?>[args.length];
-            Object[] values = new Object[args.length];
-            StringBuilder line = new StringBuilder(name).append('(');
-            for (int i = 0; i < args.length; i++) {
-                types[i] = int.class;
-                values[i] = args[i];
-                line.append(i == 0 ? "" : ", ").append(args[i]);
-            }
-            told.add(line.append(')').toString());
-            long want = answer(Model.class.getMethod(name, types), model, values);
-            long got;
-            try {
-                got = answer(SteepleStruck.class.getMethod(name, types), real, values);
-            } catch (InvocationTargetException thrown) {
-                Check.holds("run " + number + ": " + told + " threw " + thrown.getCause(), false);
-                return false;
-            }
-            if (got != want) {
-                Check.due("run " + number + ": " + told, got, want);
-                return false;
-            }
-            return true;
-        }
-
-        private static long answer(Method method, Object object, Object[] values) throws ReflectiveOperationException {
-            return ((Number) method.invoke(object, values)).longValue();
+            return both.calls() >= CALLS || both.call(name, args);
         }
 
         int thing() {
@@ -93,7 +61,7 @@ public final class ModelTests {
 
         boolean go() throws ReflectiveOperationException {
             boolean same = !dice.one(3) || build();
-            while (same && calls < CALLS) {
+            while (same && both.calls() < CALLS) {
                 same = dice.one(12) ? wild() : step();
                 if (same && dice.one(6)) {
                     same = call("digest");

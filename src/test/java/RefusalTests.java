@@ -8,57 +8,6 @@ public final class RefusalTests {
     private RefusalTests() {
     }
 
-    /** Two things, two parts, something of everything, and things to undo. */
-    private static SteepleStruck some() {
-        SteepleStruck x = new SteepleStruck();
-        x.thing(5, 30, 0);
-        x.thing(4, 9, 11);
-        x.body(0);
-        x.body(5);
-        x.storm(0, 0, 5);
-        x.storm(1, 1, 3);
-        x.seen(0, 0);
-        x.note(0, 1, 2, 3, 4);
-        x.mark(0, 1, 2, 3);
-        x.image(0);
-        x.summers(2);
-        x.takes(1);
-        x.type('v');
-        x.falls(0, 5);
-        return x;
-    }
-
-    /** All that there may be of everything; nothing to undo. */
-    private static SteepleStruck allFull() {
-        SteepleStruck x = new SteepleStruck();
-        for (int i = 0; i < 6; i++) {
-            x.thing(i, 9, i);
-            x.body(i);
-        }
-        for (int i = 0; i < 6; i++) {
-            x.seen(i, i);
-            x.note(i, 1, 2, 3, 4);
-            x.mark(i, 1, 2, 3);
-        }
-        for (int i = 0; i < 150; i++) {
-            x.type(' ');
-        }
-        return x;
-    }
-
-    /** What can be asked of an object, its image and what may be undone with it. */
-    private static String all(SteepleStruck x) {
-        StringBuilder told = new StringBuilder();
-        told.append(x.digest()).append(' ').append(x.then(60)).append(' ').append(x.whence()).append(' ').append(x.spare());
-        x.image(1);
-        for (int i = 0; i < 9 && x.count(9) > 0; i++) {
-            told.append(' ').append(x.undo()).append(':').append(x.digest());
-        }
-        told.append(' ').append(x.from(0)).append(' ').append(x.digest());
-        x.from(1);
-        return told.toString();
-    }
-
     private static int call(SteepleStruck x, String name, int... args) throws ReflectiveOperationException {
         Class<?>[] types = new Class<?>[args.length];
         Object[] values = new Object[args.length];
@@ -71,15 +20,15 @@ public final class RefusalTests {
     }
 
     private static void refused(boolean full, int answer, int which, String name, int... args) throws ReflectiveOperationException {
-        SteepleStruck x = full ? allFull() : some();
-        SteepleStruck untouched = full ? allFull() : some();
+        String what = name + java.util.Arrays.toString(args) + (full ? " of all" : " of some");
+        SteepleStruck x = full ? Made.full() : Made.some();
+        SteepleStruck untouched = full ? Made.full() : Made.some();
         int[] before = {x.status(0), x.status(1), x.status(2)};
-        String what = name + java.util.Arrays.toString(args);
         Check.due(what, call(x, name, args), answer);
         for (int i = 0; i < 3; i++) {
             Check.due(what + " status " + i, x.status(i), before[i] + (i == which ? 1 : 0));
         }
-        Check.holds(what + " changes nothing else", all(x).equals(all(untouched)));
+        Check.holds(what + " changes nothing else", Whole.told(x).equals(Whole.told(untouched)));
     }
 
     private static void bad(String name, int... args) throws ReflectiveOperationException {
