@@ -28,16 +28,16 @@ final class KeptBoundaries {
 
     private static void undoAll() {
         Sentences.at(UNDO);
-        SteepleStruck x = Made.bodies(Made.stormy(Made.things(5, 30, 0, 0, 1, 0), 9), 0, 0, 0);
+        SteepleStruck x = Made.bodies(Made.stormy(Made.things(5, 30, 0, 0, 1, 0), 7), 0, 0, 0);
         x.summers(1);
         long first = x.digest();
         x.summers(60);
         due("all are there", x.count(3), 3);
-        due("charge", x.count(5), 61 * 9 - 12);
+        due("charge", x.count(5), 61 * 7 - 12);
         due("60 are one", x.count(9), 2);
         due("undone", x.undo(), 1);
-        due("PARTS", x.count(3) * 100 + x.about(0, 1) * 10 + x.about(2, 1), 210);
-        due("CHARGE", x.count(5), 1);
+        due("PARTS", x.count(3) * 100 + x.about(0, 1) * 10 + x.about(1, 1), 110);
+        due("CHARGE", x.count(5), 3);
         due("as ahead of them", x.digest(), first);
         x.takes(1);
         due("down", x.of(1, 3), 0);
@@ -72,6 +72,15 @@ final class KeptBoundaries {
         due("none again", x.count(6) + x.count(7) + x.count(8) + x.count(10), 0);
     }
 
+    /** What is up, PARTS, CHARGE, the SUMMER. */
+    private static long villageOf(SteepleStruck x) {
+        long told = x.count(4) * 1000L + x.count(5);
+        for (int i = 0; i < 6; i++) {
+            told = told * 4 + x.of(i, 3) * 2 + x.about(i, 1);
+        }
+        return told;
+    }
+
     private static void undoEight() {
         Sentences.at(UNDO);
         for (int steps = 0; steps <= 10; steps++) {
@@ -88,8 +97,24 @@ final class KeptBoundaries {
             due("no more of " + steps, x.undo(), NO);
             due("where it stays", x.count(4), steps - may);
         }
+        // what is up, there, the charge, the summer: each of the last eight as it was
+        SteepleStruck x = Made.bodies(Made.stormy(Made.full(), 5), new int[0]);
+        long[] ahead = new long[12];
+        for (int i = 0; i < 12; i++) {
+            ahead[i] = villageOf(x);
+            if (i % 2 == 0) {
+                x.takes(5 - i / 2);
+            } else {
+                x.summers(i);
+            }
+        }
+        for (int i = 11; i >= 4; i--) {
+            x.undo();
+            due("as ahead of step " + i, villageOf(x), ahead[i]);
+        }
+        due("no more", x.undo(), NO);
         // behind an undo there is room for one more
-        SteepleStruck x = Made.him();
+        x = Made.him();
         for (int i = 0; i < 9; i++) {
             x.takes(0);
         }

@@ -236,6 +236,9 @@ final class LookBoundaries {
         due("11 cells of 12", Made.things(0, 12, 11, 0, 12, 10).spare(), NONE);
         due("12 cells", Made.things(0, 12, 11, 0, 14, 10).spare(), 0b10);
         due("of like ones the least", Made.things(0, 1, 0, 0, 2, 0, 0, 2, 0).spare(), 0b010);
+        // things 1 and 2 spare the kite's two sides, thing 3 alone does as well: the fewest, though its bit is greater
+        due("the fewest", Made.things(0, 2, 5, 4, 1, 4, 4, 1, 6, 0, 3, 5).spare(), 0b1000);
+        due("one less of them: two", Made.things(0, 2, 5, 4, 1, 4, 4, 1, 6).spare(), 0b110);
         due("one for each end", Made.things(1, 1, 5, 1, 7, 0, 1, 7, 11).spare(), 0b110);
         due("the last of six", Made.things(0, 5, 5, 0, 5, 5, 0, 5, 5, 0, 5, 5, 0, 5, 5, 0, 6, 5).spare(), 0b100000);
         SteepleStruck x = Made.things(0, 1, 0, 0, 2, 0);
@@ -275,6 +278,27 @@ final class LookBoundaries {
         due("4: either one, the foot is the first such", x.order(4, NONE) * 100 + x.order(4, 0) * 10 + x.order(4, 1), 101);
         due("6: both, the nose ahead", x.order(6, NONE) * 100 + x.order(6, 0) * 10 + x.order(6, 1), 210);
         due("7: both, rising", x.order(7, NONE) * 100 + x.order(7, 0) * 10 + x.order(7, 1), 201);
+        // brow, coat, foot: with none there 10, 4, 4, with one 12, 6, 4, with two 14, 8, 4
+        x = Made.bodies(new SteepleStruck(), 4, 1, 0);
+        int[][] most = {{3, 0, 12}, {4, 1, 102}, {7, 1, 102}, {8, 2, 120}, {10, 2, 120}, {13, 2, 120}, {14, 2, 21}, {15, 2, 21}, {16, 2, 12},
+            {19, 2, 12}, {20, 3, 12}, {99, 3, 12}};
+        for (int[] one : most) {
+            due("how many with " + one[0], x.order(one[0], NONE), one[1]);
+            due("which with " + one[0], x.order(one[0], 0) * 100 + x.order(one[0], 1) * 10 + x.order(one[0], 2), one[2]);
+        }
+        // a hat for 4, behind three others for 1; a nose for 2, 3, 4: 2, 4, 4, 1 is the cheapest order
+        x = Made.bodies(new SteepleStruck(), 5, 0, 2, 3);
+        due("all four", x.order(11, NONE), 4);
+        due("the nose, the foot, the hand, the hat", x.order(11, 0) * 1000 + x.order(11, 1) * 100 + x.order(11, 2) * 10 + x.order(11, 3), 3120);
+        due("three of them", x.order(10, NONE), 3);
+        due("the nose, the hat, the foot", x.order(10, 0) * 1000 + x.order(10, 1) * 100 + x.order(10, 2) * 10 + x.order(10, 3), 3012);
+        // asked again with less, and when one is there: nothing of what was asked ahead of it stays
+        x = Made.bodies(Made.stormy(Made.him(), 4), 0, 0, 0);
+        due("three with 12", x.order(12, NONE), 3);
+        due("none with 3", x.order(3, NONE), 0);
+        x.summers(1);
+        due("one with 7", x.order(7, NONE) * 10 + x.order(7, 0), 11);
+        due("none with 0", x.order(0, NONE), 0);
         // only those that are not there
         x = Made.bodies(Made.stormy(Made.him(), 4), 0, 1);
         x.summers(1);
@@ -429,6 +453,12 @@ final class LookBoundaries {
         due("rod, voted", x.is(0), 0b001100);
         x.note(0, 30, 0, 1, 0);
         due("voted", x.is(0), 0b001000);
+        // of one: those of another one do not matter
+        x = Made.things(5, 30, 0, 5, 30, 0, 5, 30, 0);
+        x.note(1, 30, 0, 0, 99);
+        due("of the one ahead", x.is(0), 63);
+        due("of the one itself", x.is(1), 0);
+        due("of the one behind", x.is(2), 63);
     }
 
     private static void look(String what, int height, int kinds, int want, int... notes) {
@@ -513,6 +543,11 @@ final class LookBoundaries {
         due("with 3 there", marked(3, 1, 3).kinds(0), 0b000100);
         due("with 3 there 1", marked(3, 1, 1).kinds(0), 0b100000);
         due("20, the most that there is", marked(5, 99, 20).kinds(0), 0b010000);
+        SteepleStruck x = Made.bodies(new SteepleStruck(), 0, 0, 0);
+        x.mark(1, 0, 0, 99);
+        due("of the one ahead", x.kinds(0), 63);
+        due("of the one itself", x.kinds(1), 0);
+        due("of the one behind", x.kinds(2), 63);
         due("all of six, the sixth too", marked(0, 0, 4, 0, 0, 4, 0, 0, 4, 0, 0, 4, 0, 0, 4, 5, 98, 14).kinds(0), 0b000010);
     }
 

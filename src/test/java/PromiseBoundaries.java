@@ -612,7 +612,17 @@ final class PromiseBoundaries {
             h = fold(h, i, 1, 2, 3);
         }
         due("all that there may be", Made.full().digest(), fold(h, 0, 1));
-        SteepleStruck x = new SteepleStruck();
+        // one up, one down, one there, one not; 7 by 10
+        SteepleStruck x = Made.bodies(Made.things(5, 30, 2, 3, 4, 7), 0, 4);
+        x.storm(0, 2, 9);
+        x.storm(5, 11, 1);
+        x.summers(1);
+        x.takes(1);
+        x.falls(2, 3);
+        h = fold(1621, 2, 1, 2, 1, 1, 5, 0, 0, 0, 2, 0);
+        h = fold(h, 2, 9, 0, 0, 0, 0, 0, 0, 0, 0, 11, 1);
+        due("up, down, there, not there", x.digest(), fold(h, 5, 30, 2, 1, 3, 4, 7, 0, 0, 1, 4, 0, 7, 10));
+        x = new SteepleStruck();
         x.seen(0, NONE);
         h = fold(1621, 0, 0, 0, 0, 0, 0, 1, 0, 0, 0, 0);
         h = fold(h, 0, 0, 0, 0, 0, 0, 0, 0, 0, 0, 0, 0);

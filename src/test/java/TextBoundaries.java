@@ -126,6 +126,10 @@ final class TextBoundaries {
         Made.typed(x, "take0;");
         due("up again", x.read(), 4);
         due("up again", x.count(1), 1);
+        x = Made.typed("village;" + Made.repeat("thing0 1 0;", 6) + "take5;take1;take1;take4;take4;take5;take3;");
+        due("six, some of them taken", x.read(), 14);
+        due("only thing 3 is down", x.count(1) * 10 + x.of(3, 3), 50);
+        due("no summer goes by", x.count(4), 0);
         fault("village;take 0;", 13);
         fault("village;thing0 1 0;take 1;", 24);
         fault("village;thing0 1 0;take;", 23);
@@ -231,6 +235,15 @@ final class TextBoundaries {
         fault("hamlet;", 0);
         fault("villag;", 0);
         fault("villages;", 0);
+        for (String word : new String[] {"village", "storm", "thing", "part", "take", "summers"}) {
+            String rest = word.equals("village") ? ";" : word.equals("storm") || word.equals("thing") ? " 0 1 0;" : " 1;";
+            String ahead = word.equals("village") ? "" : word.equals("take") ? "village;thing0 1 0;thing0 1 0;" : "village;";
+            good(ahead + word + rest, ahead.isEmpty() ? 1 : word.equals("take") ? 4 : 2);
+            for (int i = 0; i < word.length(); i++) {
+                fault(ahead + word.substring(0, i) + "q" + word.substring(i + 1) + rest, ahead.length());
+                fault(ahead + word.substring(0, i) + word.substring(i + 1) + rest, ahead.length());
+            }
+        }
         fault("village;summer 1;", 8);
         fault("village;summerss 1;", 8);
         fault("village;storms 0 0 0;", 8);
