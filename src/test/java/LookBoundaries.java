@@ -286,6 +286,10 @@ final class LookBoundaries {
             due("how many with " + one[0], x.order(one[0], NONE), one[1]);
             due("which with " + one[0], x.order(one[0], 0) * 100 + x.order(one[0], 1) * 10 + x.order(one[0], 2), one[2]);
         }
+        // 14 reach for two coats, or for a brow and something for 4 that is not there
+        x = Made.bodies(new SteepleStruck(), 4, 1, 1);
+        due("two coats", x.order(14, NONE), 2);
+        due("the coats first", x.order(14, 0) * 100 + x.order(14, 1) * 10 + x.order(14, 2), 120);
         // a hat for 4, behind three others for 1; a nose for 2, 3, 4: 2, 4, 4, 1 is the cheapest order
         x = Made.bodies(new SteepleStruck(), 5, 0, 2, 3);
         due("all four", x.order(11, NONE), 4);
@@ -296,6 +300,7 @@ final class LookBoundaries {
         x = Made.bodies(Made.stormy(Made.him(), 4), 0, 0, 0);
         due("three with 12", x.order(12, NONE), 3);
         due("none with 3", x.order(3, NONE), 0);
+        due("three with 99", x.order(99, NONE), 3);
         x.summers(1);
         due("one with 7", x.order(7, NONE) * 10 + x.order(7, 0), 11);
         due("none with 0", x.order(0, NONE), 0);
@@ -562,6 +567,7 @@ final class LookBoundaries {
             + " none: no KIND.");
         ask("no kind", 0, NONE, 0, 0, 0);
         ask("one kind alone: the least of all", 0b010000, 0, 0, 0, 10);
+        ask("a foot alone, whatever others would need", 0b000001, 0, 1, 1, 4);
         // foot, nose: 4, 2 with none there
         ask("apart at once", 0b001001, 0, 2, 1, 4);
         // hand, hat: alike up to two there
